@@ -18,7 +18,7 @@ public final class SharedEndings {
     private static final int MOST_PAGE = 2 * MOST_TEXT - 1;
     // Behind each place of the text at most one word of each length can end.
     private static final int MOST_FOUND = MOST_TEXT * MOST_LETTERS;
-    // The empty row, and a prefix for each letter of each word when no two words share one.
+    // The empty row, and at most one prefix for each letter of each word.
     private static final int MOST_PREFIXES = 1 + MOST_WORDS * MOST_LETTERS;
 
     private final Line text;

@@ -40,6 +40,8 @@ public final class PromisesTest {
         textIsKept();
         pageIsKept();
         objectsAreApart();
+        largestTree();
+        largestTreeCutDown();
         CHECKS.end();
     }
 
@@ -55,11 +57,12 @@ public final class PromisesTest {
     }
 
     private static void type() {
-        Store s = new Store();
         for (int c = 0; c <= 65535; c++) {
-            CHECKS.due("2 type of code " + c, s.x.type((char) c), c >= 32 && c <= 126);
-            CHECKS.due("2 typed of code " + c, s.x.wipe(), c >= 32 && c <= 126 ? 1 : 0);
+            SharedEndings x = new SharedEndings();
+            CHECKS.due("2 type of code " + c, x.type((char) c), c >= 32 && c <= 126);
+            CHECKS.due("2 typed of code " + c, x.wipe(), c >= 32 && c <= 126 ? 1 : 0);
         }
+        Store s = new Store();
         for (int n = 1; n <= 60; n++) {
             CHECKS.due("2 type number " + n, s.x.type('a'), true);
         }
@@ -492,6 +495,41 @@ public final class PromisesTest {
         CHECKS.due("texts are apart", other.x.wipe(), 0);
         CHECKS.due("words are apart", other.rank("ab"), -1);
         CHECKS.due("the first is as it was", one.x.rank(), 0);
+    }
+
+    private static void largestTree() {
+        Store s = longWords();
+        CHECKS.due("6 long words", s.x.words(), 30);
+        CHECKS.due("11 the most states", s.x.states(), 1 + 8 + 30 * 4 + 8 + 1);
+        CHECKS.due("12 the most edges", s.x.edges(), 8 + 30 * 5 + 8);
+        for (int n = 2; n < 30; n += 3) {
+            CHECKS.due("7 long word " + n, s.word(n), "7:" + longWord(n));
+        }
+    }
+
+    private static void largestTreeCutDown() {
+        Store s = longWords();
+        for (int n = 0; n < 30; n += 2) {
+            CHECKS.due("5 long word " + n, s.remove(longWord(n)), true);
+        }
+        CHECKS.due("11 fewer states", s.x.states(), 1 + 8 + 15 * 4 + 4 + 1);
+        CHECKS.due("15 scan of long words", s.scan(longWord(1) + longWord(2) + longWord(29)), 2);
+        CHECKS.due("15 found long words", s.found(), "0/7 14/21");
+    }
+
+    private static Store longWords() {
+        Store s = new Store();
+        for (int n = 0; n < 30; n++) {
+            s.add(longWord(n));
+        }
+        return s;
+    }
+
+    // Words that share as little as thirty can: the first letter, the last one.
+    private static String longWord(int n) {
+        String first = "" + (char) ('a' + n / 4) + (char) ('a' + n % 4);
+        String last = "" + (char) ('a' + n / 8) + (char) ('a' + n % 8);
+        return first + "aaa" + last;
     }
 
     private static Store full() {
