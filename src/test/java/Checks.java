@@ -1,7 +1,23 @@
 /** Counts what is as due and prints what is not. */
 final class Checks {
+    private String about = "";
     private int right;
     private int wrong;
+
+    /** The test of one sentence of the document: it is wrong, too, if it looks at nothing or breaks off. */
+    void sentence(String words, Runnable test) {
+        about = words + " | ";
+        int before = right + wrong;
+        try {
+            test.run();
+        } catch (RuntimeException e) {
+            due("the test", "broke off by " + e, "a test to its end");
+        }
+        if (right + wrong == before) {
+            due("the test", "nothing looked at", "a look");
+        }
+        about = "";
+    }
 
     void due(String what, long got, long want) {
         due(what, Long.toString(got), Long.toString(want));
@@ -16,7 +32,7 @@ final class Checks {
             right++;
         } else {
             wrong++;
-            System.out.println(what + " answered " + got + ", due is " + want);
+            System.out.println(about + what + " answered " + got + ", due is " + want);
         }
     }
 

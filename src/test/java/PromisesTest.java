@@ -3,7 +3,6 @@ public final class PromisesTest {
     private static final Class<IllegalStateException> STATE = IllegalStateException.class;
     private static final Class<IllegalArgumentException> ARGUMENT = IllegalArgumentException.class;
     private static final Class<IndexOutOfBoundsException> INDEX = IndexOutOfBoundsException.class;
-    private static final String SIXTY = "a".repeat(60);
     private static final Checks CHECKS = new Checks();
 
     private PromisesTest() {
@@ -78,7 +77,7 @@ public final class PromisesTest {
         CHECKS.due("3 wipe", s.type("ab?").x.wipe(), 3);
         CHECKS.due("3 wipe again", s.x.wipe(), 0);
         CHECKS.due("3 nothing left of it", s.rank("ab"), 0);
-        CHECKS.due("3 wipe of sixty", s.type(SIXTY).x.wipe(), 60);
+        CHECKS.due("3 wipe of sixty", s.type(Samples.SIXTY).x.wipe(), 60);
         CHECKS.due("3 words stay", s.x.words(), 1);
         s.scan("abab");
         s.type("ab").x.wipe();
@@ -98,12 +97,12 @@ public final class PromisesTest {
         CHECKS.due("4 add of a capital", s.add("A"), -1);
         CHECKS.due("4 add of `", s.add("`"), -1);
         CHECKS.due("4 add with a space", s.add("a b"), -1);
-        CHECKS.due("4 add of sixty", s.add(SIXTY), -1);
+        CHECKS.due("4 add of sixty", s.add(Samples.SIXTY), -1);
         CHECKS.due("4 words", s.x.words(), 4);
     }
 
     private static void addWhenFull() {
-        Store s = full();
+        Store s = Samples.full();
         CHECKS.due("4 thirty", s.x.words(), 30);
         String[] texts = {"h", "aa", "", "zz", "abcdefgh"};
         for (String text : texts) {
@@ -127,7 +126,7 @@ public final class PromisesTest {
         CHECKS.due("5 remove of the empty row", s.remove(""), false);
         CHECKS.due("5 remove of a prefix", s.remove("a"), false);
         CHECKS.due("5 remove of a longer row", s.remove("abcd"), false);
-        CHECKS.due("5 remove of sixty", s.remove(SIXTY), false);
+        CHECKS.due("5 remove of sixty", s.remove(Samples.SIXTY), false);
         CHECKS.due("5 nothing is gone", s.x.words(), 3);
         CHECKS.due("5 remove", s.remove("ab"), true);
         CHECKS.due("5 remove again", s.remove("ab"), false);
@@ -191,7 +190,7 @@ public final class PromisesTest {
         CHECKS.due("9 abcd", s.starting("abcd"), 0);
         CHECKS.due("9 c", s.starting("c"), 0);
         CHECKS.due("9 a?", s.starting("a?"), 0);
-        CHECKS.due("9 sixty", s.starting(SIXTY), 0);
+        CHECKS.due("9 sixty", s.starting(Samples.SIXTY), 0);
         CHECKS.due("9 none held", new Store().starting(""), 0);
     }
 
@@ -205,7 +204,7 @@ public final class PromisesTest {
         CHECKS.due("10 c", s.longest("c"), -1);
         CHECKS.due("10 ?a", s.longest("?a"), -1);
         CHECKS.due("10 the empty row", s.longest(""), -1);
-        CHECKS.due("10 sixty", s.longest(SIXTY), 0);
+        CHECKS.due("10 sixty", s.longest(Samples.SIXTY), 0);
     }
 
     private static void states() {
@@ -214,7 +213,7 @@ public final class PromisesTest {
         CHECKS.due("11 one letter", Store.with("a", "b", "h").x.states(), 2);
         CHECKS.due("11 a chain", Store.with("a", "aa", "aaa").x.states(), 4);
         CHECKS.due("11 seven letters", Store.with("abcdefg").x.states(), 8);
-        CHECKS.due("11 full", full().x.states(), 3);
+        CHECKS.due("11 full", Samples.full().x.states(), 3);
     }
 
     private static void statesWhileWordsComeAndGo() {
@@ -236,7 +235,7 @@ public final class PromisesTest {
         CHECKS.due("12 one letter", Store.with("a", "b", "h").x.edges(), 3);
         CHECKS.due("12 a chain", Store.with("a", "aa", "aaa").x.edges(), 3);
         CHECKS.due("12 bad, bed, bead, head, had", Store.with("bad", "bed", "bead", "head", "had").x.edges(), 10);
-        CHECKS.due("12 full", full().x.edges(), 11);
+        CHECKS.due("12 full", Samples.full().x.edges(), 11);
     }
 
     private static void alike() {
@@ -273,8 +272,8 @@ public final class PromisesTest {
         CHECKS.due("14 two changed places", s.near("bacdefg", 2), 1);
         CHECKS.due("14 none", s.near("zzzz", 2), 0);
         CHECKS.due("14 found none", s.found(), "");
-        CHECKS.due("14 sixty", s.near(SIXTY, 2), 0);
-        Store full = full();
+        CHECKS.due("14 sixty", s.near(Samples.SIXTY, 2), 0);
+        Store full = Samples.full();
         CHECKS.due("14 all", full.near("ab", 2), 30);
     }
 
@@ -297,8 +296,8 @@ public final class PromisesTest {
         CHECKS.due("15 found between", s.found(), "0/1 0/3 0/6");
         CHECKS.due("15 scan of the empty row", s.scan(""), 0);
         CHECKS.due("15 found nothing", s.found(), "");
-        Store seven = Store.with("a", "aa", "aaa", "aaaa", "aaaaa", "aaaaaa", "aaaaaaa");
-        CHECKS.due("15 the most there can be", seven.scan(SIXTY), 399);
+        Store seven = Store.with(Samples.CHAIN);
+        CHECKS.due("15 the most there can be", seven.scan(Samples.SIXTY), 399);
         CHECKS.due("15 the last of them", seven.x.found(398, 0), 0);
         CHECKS.due("15 its place", seven.x.found(398, 1), 60);
         CHECKS.dueThrow("15 no more", INDEX, () -> seven.x.found(399, 0));
@@ -364,8 +363,8 @@ public final class PromisesTest {
         CHECKS.due("17 other characters", s.splits("a a"), 0);
         CHECKS.due("17 none held", new Store().splits("a"), 0);
         CHECKS.due("17 none held, the empty row", new Store().splits(""), 1);
-        Store seven = Store.with("a", "aa", "aaa", "aaaa", "aaaaa", "aaaaaa", "aaaaaaa");
-        CHECKS.due("17 beyond an int", seven.splits(SIXTY), sevenStepSum(60));
+        Store seven = Store.with(Samples.CHAIN);
+        CHECKS.due("17 beyond an int", seven.splits(Samples.SIXTY), sevenStepSum(60));
     }
 
     private static long sevenStepSum(int n) {
@@ -387,7 +386,7 @@ public final class PromisesTest {
         CHECKS.due("18 other characters, the page stays", s.split("a.a"), "-1:aa");
         CHECKS.due("18 the empty row", s.split(""), "0:");
         Store one = Store.with("a");
-        CHECKS.due("18 the longest page", one.split(SIXTY), "60:" + "a.".repeat(59) + "a");
+        CHECKS.due("18 the longest page", one.split(Samples.SIXTY), "60:" + "a.".repeat(59) + "a");
         CHECKS.due("18 none held", new Store().split("a"), "-1:");
     }
 
@@ -498,47 +497,22 @@ public final class PromisesTest {
     }
 
     private static void largestTree() {
-        Store s = longWords();
+        Store s = Samples.longWords();
         CHECKS.due("6 long words", s.x.words(), 30);
-        CHECKS.due("11 the most states", s.x.states(), 1 + 8 + 30 * 4 + 8 + 1);
-        CHECKS.due("12 the most edges", s.x.edges(), 8 + 30 * 5 + 8);
+        CHECKS.due("11 states of long words", s.x.states(), 1 + 8 + 30 * 4 + 8 + 1);
+        CHECKS.due("12 edges of long words", s.x.edges(), 8 + 30 * 5 + 8);
         for (int n = 2; n < 30; n += 3) {
-            CHECKS.due("7 long word " + n, s.word(n), "7:" + longWord(n));
+            CHECKS.due("7 long word " + n, s.word(n), "7:" + Samples.longWord(n));
         }
     }
 
     private static void largestTreeCutDown() {
-        Store s = longWords();
+        Store s = Samples.longWords();
         for (int n = 0; n < 30; n += 2) {
-            CHECKS.due("5 long word " + n, s.remove(longWord(n)), true);
+            CHECKS.due("5 long word " + n, s.remove(Samples.longWord(n)), true);
         }
         CHECKS.due("11 fewer states", s.x.states(), 1 + 8 + 15 * 4 + 4 + 1);
-        CHECKS.due("15 scan of long words", s.scan(longWord(1) + longWord(2) + longWord(29)), 2);
+        CHECKS.due("15 scan of long words", s.scan(Samples.longWord(1) + Samples.longWord(2) + Samples.longWord(29)), 2);
         CHECKS.due("15 found long words", s.found(), "0/7 14/21");
-    }
-
-    private static Store longWords() {
-        Store s = new Store();
-        for (int n = 0; n < 30; n++) {
-            s.add(longWord(n));
-        }
-        return s;
-    }
-
-    // Words that share as little as thirty can: the first letter, the last one.
-    private static String longWord(int n) {
-        String first = "" + (char) ('a' + n / 4) + (char) ('a' + n % 4);
-        String last = "" + (char) ('a' + n / 8) + (char) ('a' + n % 8);
-        return first + "aaa" + last;
-    }
-
-    private static Store full() {
-        Store s = new Store();
-        for (char first = 'a'; first <= 'e'; first++) {
-            for (char second = 'a'; second <= 'f'; second++) {
-                s.add("" + first + second);
-            }
-        }
-        return s;
     }
 }
