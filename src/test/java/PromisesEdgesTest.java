@@ -41,6 +41,7 @@ public final class PromisesEdgesTest {
         CHECKS.sentence("14: at most most, in their order: how many", PromisesEdgesTest::near);
         CHECKS.sentence("14: IllegalArgument: most is not 0 .. 2", PromisesEdgesTest::nearOfWrong);
         CHECKS.sentence("15: all places in the text", PromisesEdgesTest::scan);
+        CHECKS.sentence("15: all places, behind a row that breaks off", PromisesEdgesTest::scanBehindBrokenRows);
         CHECKS.sentence("15: of several with the same place the longest word first", PromisesEdgesTest::scanOrder);
         CHECKS.sentence("16: IndexOutOfBounds: there is no such one", PromisesEdgesTest::foundOfNone);
         CHECKS.sentence("16: IllegalArgument: what is not 0 or 1", PromisesEdgesTest::foundOfWrong);
@@ -494,6 +495,20 @@ public final class PromisesEdgesTest {
         CHECKS.due("no words", new Store().scan("abc"), 0);
         Store full = Samples.full();
         CHECKS.due("a word behind each place but the first", full.scan("abcdea".repeat(10)), 59);
+    }
+
+    // Where aaaaaaa breaks off, the search goes back over up to seven shorter rows, the empty one at last.
+    private static void scanBehindBrokenRows() {
+        for (int size = 0; size <= 6; size++) {
+            Store s = Store.with("aaaaaaa", "a".repeat(size) + "b");
+            CHECKS.due("eight letters, then b, " + size, s.scan("aaaaaaaab"), 3);
+            CHECKS.due("found there, " + size, s.found(), "0/7 0/8 1/9");
+        }
+        for (int size = 1; size <= 7; size++) {
+            Store s = Store.with("a".repeat(size), "b", "bc");
+            CHECKS.due("just " + size + ", then bc", s.scan("a".repeat(size) + "bc"), 3);
+            CHECKS.due("found there", s.found(), "0/" + size + " 1/" + (size + 1) + " 2/" + (size + 2));
+        }
     }
 
     private static void scanOrder() {

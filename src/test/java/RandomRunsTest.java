@@ -18,6 +18,7 @@ public final class RandomRunsTest {
     private final int letters;
     private final int size;
     private final int keeping;
+    private final int leaning;
     private int calls;
 
     private RandomRunsTest(int seed) {
@@ -26,11 +27,14 @@ public final class RandomRunsTest {
         letters = 1 + random.nextInt(8);
         size = 1 + random.nextInt(7);
         keeping = random.nextInt(4);
+        // Rows in which one letter comes again and again have the longest chains of links.
+        leaning = random.nextInt(3);
     }
 
     public static void main(String[] args) {
         for (int seed = 0; seed < RUNS; seed++) {
             new RandomRunsTest(seed).run();
+            new RandomRunsTest(RUNS + seed).runFreely();
         }
         CHECKS.end();
     }
@@ -46,8 +50,21 @@ public final class RandomRunsTest {
             if (random.nextInt(3) == 0) {
                 look();
             }
-            same("states", real::states, plain::states);
-            same("edges", real::edges, plain::edges);
+            automaton();
+        }
+    }
+
+    /** Any call at any time, so that texts, pages and finds of all kinds stand when a call comes. */
+    private void runFreely() {
+        while (calls < CALLS) {
+            int typed = random.nextInt(2 + keeping);
+            typeRow(random.nextInt(8) == 0 ? lookedAt() : row(typed));
+            switch (random.nextInt(4)) {
+                case 0 -> use(random.nextInt(9));
+                case 1 -> look(random.nextInt(5));
+                case 2 -> same("remove", () -> real.remove() ? 1 : 0, () -> plain.remove() ? 1 : 0);
+                default -> same("add", real::add, plain::add);
+            }
         }
     }
 
@@ -60,7 +77,13 @@ public final class RandomRunsTest {
 
     private void look() {
         typeRow(lookedAt());
-        switch (random.nextInt(9)) {
+        use(random.nextInt(9));
+        look(random.nextInt(4));
+        same("words", real::words, plain::words);
+    }
+
+    private void use(int kind) {
+        switch (kind) {
             case 0 -> same("rank", real::rank, plain::rank);
             case 1 -> same("starting", real::starting, plain::starting);
             case 2 -> same("longest", real::longest, plain::longest);
@@ -71,8 +94,6 @@ public final class RandomRunsTest {
             case 7 -> same("split", real::split, plain::split);
             default -> same("wipe", real::wipe, plain::wipe);
         }
-        look(random.nextInt(4));
-        same("words", real::words, plain::words);
     }
 
     private void near() {
@@ -88,9 +109,15 @@ public final class RandomRunsTest {
                 case 0 -> same("word " + index, () -> real.word(index), () -> plain.word(index));
                 case 1 -> same("charAt " + index, () -> real.charAt(index), () -> plain.charAt(index));
                 case 2 -> same("length", real::length, plain::length);
+                case 4 -> automaton();
                 default -> same("found " + index + " " + what, () -> real.found(index, what), () -> plain.found(index, what));
             }
         }
+    }
+
+    private void automaton() {
+        same("states", real::states, plain::states);
+        same("edges", real::edges, plain::edges);
     }
 
     private int number() {
@@ -119,7 +146,7 @@ public final class RandomRunsTest {
     private String row(int length) {
         StringBuilder row = new StringBuilder();
         for (int n = 0; n < length; n++) {
-            row.append((char) ('a' + random.nextInt(letters)));
+            row.append(random.nextInt(5) < 2 * leaning ? 'a' : (char) ('a' + random.nextInt(letters)));
         }
         return row.toString();
     }
